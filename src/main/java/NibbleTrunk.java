@@ -8,7 +8,7 @@ public final class NibbleTrunk {
     private static final int COUNT_KINDS = 14, NODE_FACTS = 5, CHANGE_KINDS = 4;
     private static final int IDLE = 0, PUTTING = 1, TAKING = 2, STRIPPING = 3;
     private static final int SMALL = 1, ROWED = 2, TABLED = 3, WHOLE = 4;
-    private static final int BLANK = 32, EQUALS = 61, SEMICOLON = 59;
+    private static final int BLANK = 32, EQUALS = 61, SEMICOLON = 59, PAST_END = 256;
     private static final int MISSING = -1;
     private static final int ALLOWED = 0;
     private static final long LOT_FACTOR = 48271L, LOT_MODULUS = 2147483647L;
@@ -537,7 +537,7 @@ public final class NibbleTrunk {
      * among six, and its length in the lowest three bits. So the order of ints is the ORDER of words.
      */
     private static final class Words {
-        private static final int LENGTH_BITS = 3, LENGTH_MASK = 7, FIGURES_MASK = 0xFFFFFF;
+        private static final int LENGTH_BITS = 3, LENGTH_MASK = 7, WORD_BITS = 27, FIGURE_BITS = 0x7FFFFF8;
 
         static boolean isWord(int v, int n) {
             return n >= 1 && n <= WORD_LIMIT && v >= 0 && v < 1 << 4 * n;
@@ -548,7 +548,7 @@ public final class NibbleTrunk {
         }
 
         static int pack(int v, int n) {
-            return v << shiftFor(n) << LENGTH_BITS | n;
+            return v << bitsBehind(n) | n;
         }
 
         static int length(int word) {
@@ -556,36 +556,35 @@ public final class NibbleTrunk {
         }
 
         static int figures(int word) {
-            return word >> LENGTH_BITS >> shiftFor(length(word));
+            return word >> bitsBehind(length(word));
         }
 
         static int figure(int word, int k) {
-            return word >> LENGTH_BITS >> shiftFor(k + 1) & 15;
+            return word >> bitsBehind(k + 1) & 15;
         }
 
         static int head(int word, int length) {
-            return pack(word >> LENGTH_BITS >> shiftFor(length), length);
+            int bits = bitsBehind(length);
+            return word >> bits << bits | length;
         }
 
         static int tail(int word, int behind) {
-            return (word >> LENGTH_BITS << 4 * behind & FIGURES_MASK) << LENGTH_BITS | length(word) - behind;
+            return (word & FIGURE_BITS) << 4 * behind & FIGURE_BITS | length(word) - behind;
         }
 
         static boolean isHeadOf(int head, int word) {
-            return length(head) <= length(word) && head(word, length(head)) == head;
+            int length = length(head);
+            return length <= length(word) && (head ^ word) >> bitsBehind(length) == 0;
         }
 
         static int sharedLength(int a, int b) {
-            int most = Math.min(length(a), length(b));
-            int shared = 0;
-            while (shared < most && figure(a, shared) == figure(b, shared)) {
-                shared++;
-            }
-            return shared;
+            int unlike = (a ^ b) >> LENGTH_BITS;
+            int alike = (Integer.numberOfLeadingZeros(unlike) - (32 - 4 * WORD_LIMIT)) / 4;
+            return Math.min(alike, Math.min(length(a), length(b)));
         }
 
-        private static int shiftFor(int length) {
-            return 4 * (WORD_LIMIT - length);
+        private static int bitsBehind(int length) {
+            return WORD_BITS - 4 * length;
         }
     }
 
@@ -658,6 +657,16 @@ public final class NibbleTrunk {
             if (spans(r, i, n) && spans(to, j, n)) {
                 System.arraycopy(cells[r], i, cells[to], j, n);
             }
+        }
+
+        /** Lays the places of a row into another array, and answers how many they are. */
+        int layInto(int r, int[] into) {
+            int n = Math.min(size(r), into.length);
+            if (n < 1) {
+                return 0;
+            }
+            System.arraycopy(cells[r], 0, into, 0, n);
+            return n;
         }
 
         long sum(int r) {
@@ -768,11 +777,12 @@ public final class NibbleTrunk {
         }
 
         void insert(int word, int value) {
-            if (!hasRoomFor(word)) {
+            int place = aheadOf(word);
+            boolean isNew = place >= size || words[place] != word;
+            if (isNew && size >= KEY_LIMIT) {
                 return;
             }
-            int place = aheadOf(word);
-            if (!has(word)) {
+            if (isNew) {
                 for (int k = size; k > place; k--) {
                     words[k] = words[k - 1];
                     values[k] = values[k - 1];
@@ -1105,16 +1115,13 @@ public final class NibbleTrunk {
     /** Reads an index from a text; what it has read stands in its keys. */
     private static final class Reader {
         final Keys keys = new Keys();
-        private Shelf shelf = null;
-        private int t = 0;
+        private final int[] signs = new int[TEXT_LIMIT];
         private int size = 0;
         private int place = 0;
 
         /** Answers the place of the first fault, or NONE. */
-        int read(Shelf texts, int text) {
-            shelf = texts;
-            t = text;
-            size = texts.size(text);
+        int read(Shelf texts, int t) {
+            size = texts.layInto(t, signs);
             place = 0;
             keys.empty();
             for (int item = 0; item <= TEXT_LIMIT; item++) {
@@ -1131,7 +1138,7 @@ public final class NibbleTrunk {
         }
 
         private int sign() {
-            return shelf != null && place < size ? shelf.cell(t, place) : MISSING;
+            return place < size ? signs[place] : PAST_END;
         }
 
         private void skipBlanks() {
@@ -1145,10 +1152,7 @@ public final class NibbleTrunk {
             int start = place;
             int v = readNumber(16, WORD_LIMIT);
             int n = place - start;
-            if (n == 0 || n > WORD_LIMIT) {
-                return start + Math.min(n, WORD_LIMIT);
-            }
-            if (sign() != EQUALS) {
+            if (n == 0 || sign() != EQUALS) {
                 return place;
             }
             int word = Words.pack(v, n);
@@ -1158,11 +1162,7 @@ public final class NibbleTrunk {
             place++;
             int valueStart = place;
             int value = readNumber(10, VALUE_FIGURES);
-            int valueFigures = place - valueStart;
-            if (valueFigures == 0 || valueFigures > VALUE_FIGURES) {
-                return valueStart + Math.min(valueFigures, VALUE_FIGURES);
-            }
-            if (sign() != SEMICOLON) {
+            if (place == valueStart || sign() != SEMICOLON) {
                 return place;
             }
             place++;
@@ -1170,10 +1170,10 @@ public final class NibbleTrunk {
             return NONE;
         }
 
-        // Goes one figure beyond the most, if there is one: that tells the fault.
+        // A figure beyond the most is left unread: there it is no sign that may follow.
         private int readNumber(int radix, int most) {
             int number = 0;
-            for (int k = 0; k <= most; k++) {
+            for (int k = 0; k < most; k++) {
                 int figure = figureOf(sign());
                 if (figure < 0 || figure >= radix) {
                     return number;

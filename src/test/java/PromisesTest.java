@@ -102,8 +102,10 @@ public final class PromisesTest {
         finds("2 row(0, -1)", x, x.row(0, -1), 5);
         finds("2 row(0, LEAST)", x, x.row(0, LEAST), 5);
         tells("2 the row stays", x, x.at(0, 39), 1, 0);
+        x.lay(0, 0, 6);
         x.lay(0, 1, 7);
         due("2 row(0, 2) anew", x.row(0, 2), 2);
+        tells("2 with ints 0", x, x.at(0, 0), 1, 0);
         tells("2 with ints 0", x, x.at(0, 1), 1, 0);
         finds("2 and two places", x, x.at(0, 2), 2);
     }
@@ -175,6 +177,10 @@ public final class PromisesTest {
         x.lay(0, 0, LEAST);
         x.lay(0, 1, LEAST);
         tells("7 of low ones", x, x.mean(0), 1, LEAST);
+        x.row(1, 1);
+        x.lay(1, 0, 9);
+        tells("7 of one", x, x.mean(1), 1, 9);
+        x.tear(1);
         finds("7 of none", x, x.mean(1), 1);
         x.row(1, 0);
         finds("7 of an empty one", x, x.mean(1), 4);
@@ -448,6 +454,14 @@ public final class PromisesTest {
         due("18 as they were", x.count(0), 2);
         due("17 keep over it", x.keep(2), 1);
         due("17 still two", x.count(12), 2);
+        x.undo(0);
+        x.strip(1, 1);
+        x.enter(4, 2, 9);
+        due("18 other deeds in between", x.on(0), 1);
+        tells("18 a key as kept", x, x.nth(1), 2, 1);
+        due("18 its value as kept", x.find(2, 1), 1);
+        due("18 the others are gone", x.find(4, 2), NONE);
+        due("18 keys as kept", x.count(0), 2);
         finds("18 none kept", x, x.on(1), 1);
         due("17 BAD", x.keep(3), BAD);
         due("17 BAD", x.keep(-1), BAD);
@@ -712,6 +726,7 @@ public final class PromisesTest {
         x.text(3, 1);
         int[] want = {26, 7, 3, 1, 2, 1, 6 + 4 + 16 + 16, 3, 4, 19, 3, 2, 1, 2};
         for (int what = 0; what < want.length; what++) due("32 count(" + what + ")", x.count(what), want[what]);
+        due("32 the longest PREFIX, the topmost's", of("abc1=1;abc21=2;abc22=2;").count(8), 3);
         due("32 BAD", x.count(14), BAD);
         due("32 BAD", x.count(-1), BAD);
         due("32 BAD", x.count(LEAST), BAD);

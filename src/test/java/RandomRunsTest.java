@@ -12,6 +12,8 @@ public final class RandomRunsTest {
     /** How many figures words are made of: few give deep trees, many give wide ones. */
     private final int figures;
     private final int longest;
+    /** How many values there are: with one alone many nodes are alike. */
+    private final int values;
     private int calls = 0;
     private int wrong = 0;
 
@@ -20,6 +22,7 @@ public final class RandomRunsTest {
         random = new Random(run);
         figures = new int[] {2, 3, 16, 5}[run % 4];
         longest = 1 + random.nextInt(6);
+        values = new int[] {1, 2, 3, 1000, 1}[run % 5];
     }
 
     public static void main(String[] args) {
@@ -145,7 +148,7 @@ public final class RandomRunsTest {
             int f = 0;
             for (; f < n; f++) s.append(Character.forDigit(random.nextInt(figures), 16));
             if (random.nextInt(40) == 0) s.append("00000".substring(random.nextInt(5)));
-            s.append('=').append(random.nextInt(pick(10, 100, 1000)));
+            s.append('=').append(random.nextInt(values));
             if (random.nextInt(40) == 0) s.append("00");
             s.append(';');
         }
@@ -158,7 +161,7 @@ public final class RandomRunsTest {
     }
 
     private void deedStep() {
-        int n = length(), v = figuresFor(n), value = random.nextInt(40) == 0 ? pick(-1, 1000, 999) : random.nextInt(3);
+        int n = length(), v = figuresFor(n), value = random.nextInt(40) == 0 ? pick(-1, 1000, 999) : random.nextInt(values);
         switch (random.nextInt(12)) {
             case 0: case 1: due("take(" + v + ", " + n + ")", x.take(v, n), oracle.take(v, n)); break;
             case 2: due("strip(" + v + ", " + n + ")", x.strip(v, n), oracle.strip(v, n)); break;
