@@ -37,6 +37,7 @@ public final class PromisesTest {
         count();
         findings();
         digest();
+        leftovers();
         System.out.println(asked + " answers, " + wrong + " are not as due");
         if (wrong != 0) System.exit(1);
     }
@@ -525,6 +526,7 @@ public final class PromisesTest {
         due("23 BAD", x.rank(0, 7), BAD);
         tells("24 both ends", x, x.between(0, 2, 1, 1), 3, 432);
         tells("24 a head is behind no longer one", x, x.between(1, 1, 0x11, 2), 1, 400);
+        tells("24 a longer one is behind its head", x, x.between(0, 1, 0, 1), 1, 1);
         tells("24 one alone", x, x.between(2, 1, 2, 1), 1, 999);
         tells("24 all", x, x.between(0, 1, 0xFFFFFF, 6), 6, 1932);
         tells("24 turned round", x, x.between(2, 1, 0, 1), 0, 0);
@@ -785,5 +787,32 @@ public final class PromisesTest {
         x.row(9, 0);
         x.tear(0);
         due("35 refused ones change nothing", x.digest(), h);
+    }
+
+    /** What was there once must not be seen any more. */
+    private static void leftovers() {
+        NibbleTrunk x = new NibbleTrunk();
+        x.row(0, 2);
+        x.lay(0, 1, 9);
+        x.row(0, 1);
+        tells("7 a row made shorter", x, x.mean(0), 1, 0);
+        write(x, 0, "1=1;");
+        due("10 a text", x.fault(0), NONE);
+        write(x, 0, "1");
+        due("10 a text made shorter", x.fault(0), 1);
+        x = of("12=1;123=1;124=1;2abc1=1;2abc2=1;2abc21=1;");
+        due("32 the most NODES", x.count(7), 3);
+        due("32 the longest PREFIX", x.count(8), 3);
+        x.strip(2, 1);
+        due("32 the most NODES, some gone", x.count(7), 1);
+        due("32 the longest PREFIX, some gone", x.count(8), 2);
+        tells("23 the last key gone", x, x.rank(2, 1), 3, 0);
+        due("14 nothing left to strip", x.strip(2, 1), STATE);
+        x.strip(1, 1);
+        due("32 no node is left", x.count(7), 0);
+        due("32 no prefix is left", x.count(8), 0);
+        due("32 no place is left", x.count(6), 0);
+        tells("27 none is left", x, x.twins(), 0, 0);
+        due("28 no key is left", x.best(), STATE);
     }
 }
