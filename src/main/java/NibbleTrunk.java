@@ -1147,17 +1147,21 @@ public final class NibbleTrunk {
             }
         }
 
-        // A word told already is known as soon as it ends, ahead of any fault in its value.
+        // A word told already is a fault at its start whatever follows it, but for a seventh figure:
+        // with that it has not ended, and is not the one that was told.
         private int readKey() {
             int start = place;
             int v = readNumber(16, WORD_LIMIT);
             int n = place - start;
-            if (n == 0 || sign() != EQUALS) {
+            if (n == 0 || figureOf(sign()) != MISSING) {
                 return place;
             }
             int word = Words.pack(v, n);
             if (keys.has(word) || !keys.hasRoomFor(word)) {
                 return start;
+            }
+            if (sign() != EQUALS) {
+                return place;
             }
             place++;
             int valueStart = place;

@@ -196,10 +196,13 @@ final class Oracle {
                 word = "" + c;
                 state = 'w';
             } else if (state == 'w') {
-                if (figure && word.length() < 6) {
+                if (figure) {
+                    if (word.length() == 6) return i;
                     word += c;
-                } else if (c == '=') {
-                    if (into.containsKey(word) || into.size() == 48) return start;
+                    continue;
+                }
+                if (into.containsKey(word) || into.size() == 48) return start;
+                if (c == '=') {
                     value = "";
                     state = 'v';
                 } else {
@@ -216,6 +219,7 @@ final class Oracle {
                 }
             }
         }
+        if (state == 'w' && (into.containsKey(word) || into.size() == 48)) return start;
         return state == ' ' ? NONE : text.length;
     }
 

@@ -4,6 +4,7 @@ import java.util.Random;
 public final class RandomRunsTest {
     private static final int RUNS = 600, CALLS = 512;
     private static final String SIGNS = "0123456789abcdef=; gA:/\0";
+    private static final String[] BEHIND_A_WORD = {"", " ", ";", "=", "=5;", "x", "0", "000000"};
 
     private final Random random;
     private final int run;
@@ -151,6 +152,11 @@ public final class RandomRunsTest {
             s.append('=').append(random.nextInt(values));
             if (random.nextInt(40) == 0) s.append("00");
             s.append(';');
+        }
+        // The first word once more, with what may not follow it, or more figures than a word has.
+        if (s.indexOf("=") > 0 && random.nextInt(4) == 0) {
+            s.append(s.substring(0, s.indexOf("=")).strip())
+                    .append(BEHIND_A_WORD[random.nextInt(BEHIND_A_WORD.length)]);
         }
         if (s.length() > 90) s.setLength(90);
         if (s.length() > 0 && random.nextInt(3) == 0) {
