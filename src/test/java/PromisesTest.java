@@ -667,7 +667,7 @@ public final class PromisesTest {
 
     private static void lots() {
         NibbleTrunk x = new NibbleTrunk();
-        // 48271: 1 figure, 48271 / 16 % 4 = 0 is none; 48271 / 4 is odd: nothing to take.
+        // 48271 % 3 is 1: the word 02 of two figures; 48271 / 4 is odd: nothing to take.
         due("30 a deed of nothing", x.lots(1, 1), 0);
         due("30 it is a deed", x.count(9), 1);
         due("30 twenty", x.lots(20, 2147483646) >= 0 ? 1 : 0, 1);
