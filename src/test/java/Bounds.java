@@ -7,9 +7,9 @@ import java.util.function.Consumer;
 
 /**
  * What the tests of the document's boundary cases share. A test names the sentence that it asks for
- * (says), the state that an object has ahead of the call (in), and what the call is due to answer. Every
- * call that is refused, or answers NONE, is made on one of two objects of the same past, and both must
- * go on alike from there: nothing but finding() and findings() may have changed.
+ * (says), the state that an object has ahead of the call (in), and what the call is due to answer. With
+ * bad, full, notNow, finds and none the call is made on one of two objects of the same past, and both
+ * must go on alike from there: nothing but finding() and findings() may have changed.
  */
 class Bounds {
     static final int BAD = -1, FULL = -2, FINDING = -3, STATE = -4, NONE = -9;
