@@ -32,7 +32,10 @@ public final class FaceTest {
             int m = inside.getModifiers();
             check(inside + " is static, not public", Modifier.isStatic(m) && !Modifier.isPublic(m) && !Modifier.isProtected(m));
             checkNames(inside);
+            checkSize(inside);
         }
+        checkSize(face);
+        check("twelve classes at most", face.getDeclaredClasses().length < 12);
         System.out.println(wrong == 0 ? "the face is as told" : wrong + " things of the face are not as told");
         if (wrong != 0) System.exit(1);
     }
@@ -65,6 +68,15 @@ public final class FaceTest {
         }
     }
 
+    private static void checkSize(Class<?> of) {
+        int fields = 0;
+        for (Field field : of.getDeclaredFields()) {
+            if (!Modifier.isStatic(field.getModifiers())) fields++;
+            else check(field + " is final", Modifier.isFinal(field.getModifiers()));
+        }
+        check(of + " has twenty fields at most, not " + fields, fields <= 20);
+    }
+
     private static Set<String> names() {
         Set<String> names = new TreeSet<>();
         for (String method : METHODS) names.add(method.substring(method.indexOf(' ') + 1, method.indexOf('(')));
@@ -86,7 +98,6 @@ public final class FaceTest {
                         && field.getType() == int.class);
                 got.add(field.getName());
             }
-            check(field + ", if static, is final", !Modifier.isStatic(m) || Modifier.isFinal(m));
         }
         check("the constants, not " + got, got.equals(new TreeSet<>(Set.of(CONSTANTS))));
     }

@@ -19,6 +19,8 @@ final class Oracle {
     /** The keys ahead of any deed, and behind each one. */
     private List<TreeMap<String, Integer>> states = new ArrayList<>();
     private final Map<Integer, List<TreeMap<String, Integer>>> kept = new HashMap<>();
+    private TreeMap<String, Integer> nodesOf = null;
+    private TreeMap<String, Integer> nodesFound = null;
     private final LinkedList<String> lately = new LinkedList<>();
     private int[] changes = new int[4];
     private int told = 0;
@@ -95,6 +97,15 @@ final class Oracle {
         return nodes;
     }
 
+    /** No state's keys ever change, so their nodes are looked for once. */
+    private TreeMap<String, Integer> nodesNow() {
+        if (nodesOf != keys()) {
+            nodesOf = keys();
+            nodesFound = nodes(nodesOf);
+        }
+        return nodesFound;
+    }
+
     private static int sum(Iterable<Integer> numbers) {
         int sum = 0;
         for (int x : numbers) sum += x;
@@ -103,7 +114,7 @@ final class Oracle {
 
     private int prefix(String path) {
         int parent = -1;
-        for (String other : nodes(keys()).keySet()) {
+        for (String other : nodesNow().keySet()) {
             if (path.startsWith(other) && other.length() < path.length()) parent = Math.max(parent, other.length());
         }
         return parent < 0 ? path.length() : path.length() - (parent + 1);
@@ -243,7 +254,7 @@ final class Oracle {
     }
 
     private void deed(TreeMap<String, Integer> after) {
-        TreeMap<String, Integer> was = nodes(keys());
+        TreeMap<String, Integer> was = nodesNow();
         TreeMap<String, Integer> is = nodes(after);
         changes = new int[4];
         for (String p : is.keySet()) {
@@ -318,7 +329,7 @@ final class Oracle {
 
     private int nodesOnWayTo(String w) {
         int met = 0;
-        for (String p : nodes(keys()).keySet()) {
+        for (String p : nodesNow().keySet()) {
             if (w.startsWith(p)) met++;
         }
         return met;
@@ -386,7 +397,7 @@ final class Oracle {
         String p = path(v, n);
         if (p == null || what < 0 || what > 4) return BAD;
         if (!isNode(keys(), p)) return NONE;
-        if (what == 0) return tell(sizeOf(nodes(keys()).get(p)));
+        if (what == 0) return tell(sizeOf(nodesNow().get(p)));
         if (what == 1) {
             int bits = 0;
             for (int f : children(keys(), p)) bits += 1 << f;
@@ -402,7 +413,7 @@ final class Oracle {
         if (p == null || size < 1 || size > 4) return BAD;
         if (!isNode(keys(), p)) return NONE;
         TreeSet<Integer> children = children(keys(), p);
-        int places = nodes(keys()).get(p);
+        int places = nodesNow().get(p);
         boolean is = size == 1 ? places <= 4 : size == 2 ? places == 4 : size == 3 ? places >= 8 : places == 16;
         if (!is) return found(3);
         if (size == 1) return children.first();
@@ -417,7 +428,7 @@ final class Oracle {
 
     int twins() {
         List<TreeMap<String, Integer>> below = new ArrayList<>();
-        for (String p : nodes(keys()).keySet()) {
+        for (String p : nodesNow().keySet()) {
             TreeMap<String, Integer> tails = new TreeMap<>();
             keys().forEach((k, value) -> {
                 if (k.startsWith(p)) tails.put(k.substring(p.length()), value);
@@ -477,7 +488,7 @@ final class Oracle {
     }
 
     int count(int what) {
-        TreeMap<String, Integer> nodes = nodes(keys());
+        TreeMap<String, Integer> nodes = nodesNow();
         switch (what) {
             case 0: return keys().size();
             case 1: return nodes.size();

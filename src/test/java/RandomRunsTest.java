@@ -2,7 +2,7 @@ import java.util.Random;
 
 /** Long runs by seeds that never change: every call is asked of the class and of the Oracle. */
 public final class RandomRunsTest {
-    private static final int RUNS = 600, CALLS = 512;
+    private static final int RUNS = 1500, CALLS = 512;
     private static final String SIGNS = "0123456789abcdef=; gA:/\0";
     private static final String[] BEHIND_A_WORD = {"", " ", ";", "=", "=5;", "x", "0", "000000"};
 
@@ -15,6 +15,8 @@ public final class RandomRunsTest {
     private final int longest;
     /** How many values there are: with one alone many nodes are alike. */
     private final int values;
+    /** Some runs begin with all keys that a text has room for, and then enter far more than they take. */
+    private final boolean greedy;
     private int calls = 0;
     private int wrong = 0;
 
@@ -22,7 +24,8 @@ public final class RandomRunsTest {
         this.run = run;
         random = new Random(run);
         figures = new int[] {2, 3, 16, 5}[run % 4];
-        longest = 1 + random.nextInt(6);
+        greedy = run % 6 == 5;
+        longest = greedy ? 3 + random.nextInt(4) : 1 + random.nextInt(6);
         values = new int[] {1, 2, 3, 1000, 1}[run % 5];
     }
 
@@ -31,6 +34,7 @@ public final class RandomRunsTest {
         long calls = 0;
         for (int run = 0; run < RUNS && wrong < 20; run++) {
             RandomRunsTest test = new RandomRunsTest(run);
+            if (test.greedy) test.crowd();
             while (test.calls < CALLS && test.wrong == 0) test.step();
             wrong += test.wrong;
             calls += test.calls;
@@ -72,13 +76,22 @@ public final class RandomRunsTest {
         return v;
     }
 
+    private void crowd() {
+        StringBuilder s = new StringBuilder();
+        for (int f = 0; f < 16; f++) s.append(Integer.toHexString(f)).append("=").append(f % 3).append(";");
+        for (int f = 0; f < 5; f++) s.append("2").append(f).append("=").append(f % 3).append(";");
+        write(0, s.toString());
+        due("index(0) of " + s, x.index(0), oracle.index(0));
+    }
+
     private void step() {
-        switch (random.nextInt(8)) {
+        switch (random.nextInt(greedy ? 16 : 8)) {
             case 0: rowStep(); break;
             case 1: textStep(); break;
             case 2: case 3: deedStep(); break;
             case 4: case 5: wordStep(); break;
-            default: nodeStep(); break;
+            case 6: case 7: nodeStep(); break;
+            default: deedStep(); break;
         }
         due("asked()", x.asked(), oracle.asked());
         due("finding()", x.finding(), oracle.finding());
@@ -124,7 +137,7 @@ public final class RandomRunsTest {
             }
             case 5: case 6: due("fault(" + t + ")", x.fault(t), oracle.fault(t)); break;
             default:
-                if (random.nextInt(3) == 0) due("index(" + t + ")", x.index(t), oracle.index(t));
+                if (random.nextInt(greedy ? 60 : 3) == 0) due("index(" + t + ")", x.index(t), oracle.index(t));
                 break;
         }
     }
@@ -137,7 +150,7 @@ public final class RandomRunsTest {
             oracle.put(t, i, tale.charAt(i));
         }
         due("fault(" + t + ") of " + tale, x.fault(t), oracle.fault(t));
-        if (random.nextInt(3) == 0) due("index(" + t + ") of " + tale, x.index(t), oracle.index(t));
+        if (random.nextInt(greedy ? 60 : 3) == 0) due("index(" + t + ") of " + tale, x.index(t), oracle.index(t));
     }
 
     private String tale() {
@@ -168,7 +181,7 @@ public final class RandomRunsTest {
 
     private void deedStep() {
         int n = length(), v = figuresFor(n), value = random.nextInt(40) == 0 ? pick(-1, 1000, 999) : random.nextInt(values);
-        switch (random.nextInt(12)) {
+        switch (random.nextInt(greedy ? 60 : 12)) {
             case 0: case 1: due("take(" + v + ", " + n + ")", x.take(v, n), oracle.take(v, n)); break;
             case 2: due("strip(" + v + ", " + n + ")", x.strip(v, n), oracle.strip(v, n)); break;
             case 3: {
@@ -187,8 +200,8 @@ public final class RandomRunsTest {
                 due("on(" + k + ")", x.on(k), oracle.on(k));
                 break;
             }
-            case 6: {
-                int m = number(20), seed = random.nextInt(9) == 0 ? pick(0, -1, 1, 2147483646, 2147483647) : random.nextInt();
+            case 6: case 12: case 13: case 14: case 15: case 16: {
+                int m = number(greedy ? 6 : 20), seed = random.nextInt(9) == 0 ? pick(0, -1, 1, 2147483646, 2147483647) : random.nextInt();
                 due("lots(" + m + ", " + seed + ")", x.lots(m, seed), oracle.lots(m, seed));
                 break;
             }
@@ -196,7 +209,9 @@ public final class RandomRunsTest {
                 due("enter(" + v + ", " + n + ", " + value + ")", x.enter(v, n, value), oracle.enter(v, n, value));
                 break;
         }
-        for (int what = -1; what <= 4; what++) due("change(" + what + ")", x.change(what), oracle.change(what));
+        // A greedy run has all its calls for deeds, so it asks for one change alone.
+        int first = greedy ? random.nextInt(4) : -1, last = greedy ? first : 4;
+        for (int what = first; what <= last; what++) due("change(" + what + ")", x.change(what), oracle.change(what));
     }
 
     private void wordStep() {
