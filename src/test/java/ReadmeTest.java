@@ -24,7 +24,7 @@ public final class ReadmeTest {
         Matcher m = BLOCK.matcher(page);
         while (m.find()) blocks.add(m.group(1));
         checkLines(blocks);
-        checkCalls(page, String.join("", blocks));
+        checkCalls(String.join("", blocks));
         runAll(blocks);
         if (answers < 60) fail("only " + answers + " answers were seen");
         System.out.println(answers + " answers, " + wrong + " are not as due");
@@ -52,12 +52,11 @@ public final class ReadmeTest {
         }
     }
 
-    private static void checkCalls(String page, String examples) {
+    private static void checkCalls(String examples) {
         for (Method method : NibbleTrunk.class.getDeclaredMethods()) {
             if (!Modifier.isPublic(method.getModifiers())) continue;
-            String call = method.getName() + "(";
-            boolean shown = examples.contains("x." + call) || call.equals("digest(") && page.contains(call);
-            if (!shown) fail("no example of " + call + ")");
+            String call = "x." + method.getName() + "(";
+            if (!examples.contains(call)) fail("no example of " + call + ")");
         }
     }
 
@@ -65,7 +64,7 @@ public final class ReadmeTest {
         StringBuilder s = new StringBuilder("public final class Examples {\n");
         for (int b = 0; b < blocks.size(); b++) {
             String body = CALL.matcher(blocks.get(b)).replaceAll(
-                    r -> Matcher.quoteReplacement("ReadmeTest.due(\"" + r.group(1) + "\", " + r.group(1) + ", " + r.group(2) + ");"));
+                    r -> Matcher.quoteReplacement("ReadmeTest.due(\"" + r.group(1) + "\", " + r.group(1) + ", " + r.group(2) + "L);"));
             s.append("static void block").append(b).append("() {\n").append(body).append("}\n");
         }
         s.append("public static void main(String[] args) {\n");
